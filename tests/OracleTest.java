@@ -149,6 +149,13 @@ public final class OracleTest {
         int[] mean = board.mean(p);
         due("mean(" + p + ", 0", x.mean(p, 0), mean[0]);
         due("mean(" + p + ", 1", x.mean(p, 1), mean[1]);
+        for (int bound = 0; bound <= 6; bound++) {
+            int order = mean[0] - bound * mean[1];
+            String unit = "mean " + p + " below " + bound;
+            due(unit, Texts.ask(x, unit), order < 0 ? 1 : 0);
+            unit = "mean " + p + " above " + bound;
+            due(unit, Texts.ask(x, unit), order > 0 ? 1 : 0);
+        }
         for (int i = 0; i < 3; i++) {
             int k = random.nextInt(i == 0 ? 501 : 9);
             due("after(" + k + ", " + p, x.after(k, p), board.after(k, p));

@@ -238,20 +238,20 @@ public final class OneMark {
         draft = spare;
         draft.clear();
         reader.length = 0;
-        return isTrue(NONE, 0) ? 1 : 0;
+        return holds();
     }
 
     public int holds() {
         if (asked.units == 0) return NOT;
-        return isTrue(NONE, 0) ? 1 : 0;
+        return asked.isTrue(board, moves, means, NONE, 0) ? 1 : 0;
     }
 
     public int turned() {
         if (asked.units == 0) return NOT;
-        boolean now = isTrue(NONE, 0);
+        boolean now = asked.isTrue(board, moves, means, NONE, 0);
         int found = 0;
         for (int a = 0; a < board.arrows; a++) {
-            if (isTrue(a, 0) != now) found |= 1 << a;
+            if (asked.isTrue(board, moves, means, a, 0) != now) found |= 1 << a;
         }
         return found;
     }
@@ -264,7 +264,7 @@ public final class OneMark {
         for (int size = 0; size <= board.places; size++) {
             for (int bits = 0; bits < 1 << board.places; bits++) {
                 if (Integer.bitCount(bits) != size || (bits & useless) != 0) continue;
-                if (isTrue(NONE, bits)) return bits;
+                if (asked.isTrue(board, moves, means, NONE, bits)) return bits;
             }
         }
         return NONE;
@@ -280,12 +280,6 @@ public final class OneMark {
             case 5: return asked.units;
             default: return OUTSIDE;
         }
-    }
-
-    /** Whether the question holds without an arrow, and with places changed to the other player. */
-    private boolean isTrue(int without, int changed) {
-        moves.load(board, without, changed);
-        return asked.isTrueBy(moves, means, board.number);
     }
 
     // ---- what may be told in a call
@@ -450,8 +444,9 @@ public final class OneMark {
             return (1 << places) - 1;
         }
 
+        /** The places of a player, by bits (those of no places mean nothing). */
         private int placesOf(int player) {
-            return player == ONE ? ones : everywhere() & ~ones;
+            return player == ONE ? ones : ~ones;
         }
 
         private int branching() {
@@ -464,7 +459,7 @@ public final class OneMark {
 
         /** The places within some from which the player is sure of the target by one move. */
         private int oneMoveFrom(int player, int target, int within) {
-            int mine = placesOf(player);
+            int mine = player == ONE ? ones : ~ones;
             int found = 0;
             for (int p = 0; p < places; p++) {
                 int goes = next[p] & within;
@@ -589,13 +584,12 @@ public final class OneMark {
         }
 
         /** Finds the shortest row into a wrong loop, the first by places among equals. */
-        private boolean findBreaker(Moves moves, int[] number, int wrong, int p) {
+        private void findBreaker(Moves moves, int[] number, int wrong, int p) {
             row[0] = p;
-            for (moved = 1; moved <= moves.places; moved++) {
-                if (isExtended(this, moves, number, wrong, 1)) return true;
+            for (int k = 1; k <= moves.places; k++) {
+                moved = k;
+                if (isExtended(this, moves, number, wrong, 1)) break;
             }
-            moved = 0;
-            return false;
         }
 
         private static boolean isExtended(Loops loops, Moves moves, int[] number, int wrong, int at) {
@@ -677,6 +671,45 @@ public final class OneMark {
             int others = plansOf(moves, 1 - player);
             if (mine <= others) findBest(moves, player, mine, 1, p);
             else findBest(moves, 1 - player, others, -1, p);
+        }
+
+        /**
+         * Whether a player can hold the mean at a bound or to its own side of it.
+         * A question may ask this of 256 boards, too often for trying plans. The player can if some
+         * amount in hand is never used up by what each move lacks; the least such amounts grow here.
+         */
+        private boolean isHeld(Moves moves, int player, int bound, int p) {
+            // A way without a loop uses up no more than this.
+            int most = moves.places * (bound + MOST_WEIGHT);
+            for (int q = 0; q < moves.places; q++) {
+                sum[q] = 0;
+            }
+            for (int round = 0; round <= moves.places * (most + 1); round++) {
+                if (sum[p] > most || !isRaised(moves, player, bound, most)) break;
+            }
+            return sum[p] <= most;
+        }
+
+        private boolean isRaised(Moves moves, int player, int bound, int most) {
+            int mine = moves.placesOf(player);
+            int sign = player == ONE ? 1 : -1;
+            int seen = 0;
+            for (int m = 0; m < moves.size; m++) {
+                int p = moves.start[m];
+                int after = sum[moves.end[m]];
+                int need = after > most ? after : Math.max(0, after + sign * (bound - moves.weight[m]));
+                if ((seen >> p & 1) == 0) newSum[p] = need;
+                else if ((mine >> p & 1) != 0) newSum[p] = Math.min(newSum[p], need);
+                else newSum[p] = Math.max(newSum[p], need);
+                seen |= 1 << p;
+            }
+            boolean raised = false;
+            for (int p = 0; p < moves.places; p++) {
+                int need = Math.min(newSum[p], most + 1);
+                if (need > sum[p]) raised = true;
+                sum[p] = need;
+            }
+            return raised;
         }
 
         /** Finds the least of all loops for ONE, the greatest for OTHER. */
@@ -859,13 +892,15 @@ public final class OneMark {
             }
         }
 
-        private boolean isTrueBy(Moves moves, Means means, int[] number) {
+        /** Whether it holds without an arrow, and with places changed to the other player. */
+        private boolean isTrue(Board board, Moves moves, Means means, int without, int changed) {
+            moves.load(board, without, changed);
             // The answers not joined yet, the last one lowest: a text has no room for 64 units.
             long open = 0;
             for (int i = 0; i < size; i++) {
                 int what = code[i];
                 if (what >= 0) {
-                    open = open << 1 | (isUnitTrue(what, moves, means, number) ? 1 : 0);
+                    open = open << 1 | (isUnitTrue(what, moves, means, board.number) ? 1 : 0);
                 } else if (what == NEGATE) {
                     open ^= 1;
                 } else {
@@ -885,12 +920,8 @@ public final class OneMark {
                 case T_KEEPS: return (moves.keeping(player[u], bits[u]) >> p & 1) != 0;
                 case T_AGAIN: return (moves.meeting(player[u], bits[u], bits[u]) >> p & 1) != 0;
                 case T_EVEN: return (moves.wonBy(ONE, number) >> p & 1) != 0;
-                case T_ABOVE:
-                    means.findSure(moves, ONE, p);
-                    return means.above > bound[u] * means.below;
-                default:
-                    means.findSure(moves, ONE, p);
-                    return means.above < bound[u] * means.below;
+                case T_ABOVE: return !means.isHeld(moves, OTHER, bound[u], p);
+                default: return !means.isHeld(moves, ONE, bound[u], p);
             }
         }
     }
@@ -942,7 +973,7 @@ public final class OneMark {
                 case AT_FROM: return token == T_FROM ? AT_LAST : BROKEN;
                 case AT_MEAN: return takePlace(places) ? AT_SIDE : BROKEN;
                 case AT_SIDE: return takeSide();
-                default: return takeBound();
+                default: return takeBound() ? endUnit() : BROKEN;
             }
         }
 
@@ -1009,10 +1040,10 @@ public final class OneMark {
             return AT_BOUND;
         }
 
-        private int takeBound() {
-            if (token != T_NUMBER || value == NONE) return BROKEN;
+        private boolean takeBound() {
+            if (token != T_NUMBER || value == NONE) return false;
             question.bound[question.unit] = value;
-            return endUnit();
+            return true;
         }
 
         private int endUnit() {
