@@ -444,7 +444,7 @@ public final class PromisesTest {
             {"not", 3}, {"and", 0}, {"(even from 0", 12}, {"even from 0)", 11}, {"even from 0 even", 12},
             {"even from 0 or", 14}, {"even from 0 and or", 16}, {"()", 1}, {"Even from 0", 0}, {"even from 0 0", 12},
             {"even from 0.", 11}, {"evenfrom 0", 0}, {"even from0 not", 11}, {"one forces 12 from 0", 11},
-            {"mean 0 above -1", 13}, {"even from 0\t", 11}, {"notone", 0}, {"((((((((", 8}, {"other keeps 0 and", 14}};
+            {"mean 0 above -1", 13}, {"even from 0\t", 11}, {"notone", 0}, {"evenz from 0", 0}, {"even from z", 10}, {"even azfrom 0", 5}, {"((((((((", 8}, {"other keeps 0 and", 14}};
         for (Object[] row : wrong) due("25: " + row[0], Texts.faultOf(x, (String) row[0]), (Integer) row[1]);
         x.place(0, 0);
         due("25: a place that is there now", Texts.faultOf(x, "even from 3"), NONE);
@@ -523,6 +523,15 @@ public final class PromisesTest {
             new int[][] {{0, 1, 0}, {0, 0, 0}, {1, 2, 0}, {1, 1, 0}, {2, 2, 1}});
         due("29: ask", Texts.ask(same, "one forces 1 from 0 or one forces 2 from 1"), 0);
         due("29: the least of several", same.bought(), 1);
+        OneMark few = board(new int[][] {{1, 0}, {1, 0}, {1, 0}, {1, 0}},
+            new int[][] {{0, 0, 0}, {0, 3, 0}, {1, 1, 0}, {1, 3, 0}, {2, 2, 0}, {2, 3, 0}});
+        due("29: ask", Texts.ask(few, "one forces 3 from 0 and one forces 3 from 1 or one forces 3 from 2"), 0);
+        due("29: fewer places ahead of a less number", few.bought(), 4);
+        due("29: ask", Texts.ask(few, "one forces 3 from 0 and one forces 3 from 1"), 0);
+        due("29: two of four", few.bought(), 3);
+        OneMark each = board(new int[][] {{1, 0}, {0, 0}}, new int[][] {{0, 0, 0}, {0, 1, 0}, {1, 0, 0}, {1, 1, 0}});
+        due("29: ask", Texts.ask(each, "one forces 1 from 0 and other forces 0 from 1"), 0);
+        due("29: all places", each.bought(), 3);
     }
 
     private static void promise30Count() {
