@@ -238,7 +238,7 @@ public final class OneMark {
         draft = spare;
         draft.clear();
         reader.length = 0;
-        return holds();
+        return asked.isTrue(board, moves, means, NONE, 0) ? 1 : 0;
     }
 
     public int holds() {
