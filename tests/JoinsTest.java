@@ -14,17 +14,17 @@ public final class JoinsTest {
     }
 
     public static void main(String[] args) {
-        OneMark x = new OneMark();
-        x.place(0, 0);
-        x.place(0, 1);
-        for (int seed = 0; seed < 20000; seed++) new JoinsTest(seed).compare(x);
+        for (int seed = 0; seed < 20000; seed++) new JoinsTest(seed).compare();
         CHECKS.end("JoinsTest");
     }
 
-    private void compare(OneMark x) {
+    private void compare() {
         boolean holds = question(4);
         if (text.length() > MOST_BYTES) return;
         String asked = text.toString();
+        OneMark x = new OneMark();
+        x.place(0, 0);
+        x.place(0, 1);
         CHECKS.due(asked, Texts.ask(x, asked), holds ? 1 : 0);
         CHECKS.due("count(5) of " + asked, x.count(5), units);
         CHECKS.due("holds " + asked, x.holds(), holds ? 1 : 0);

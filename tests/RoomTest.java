@@ -106,7 +106,7 @@ public final class RoomTest {
         Texts.ask(x, "mean 0 above 4 or mean 1 above 4 or mean 2 above 4 or mean 3 above 4 or mean 4 above 4");
         long warm = x.bought() + x.turned() + x.plan(6) + x.mean(0, 0) + x.after(500, 0) + x.breaker(0, 0, 8) + x.fault();
         long before = bean.getThreadAllocatedBytes(id);
-        for (int i = 0; i < 64; i++) {
+        for (int i = 0; i < 48; i++) {
             warm += x.bought() + x.turned() + x.plan(6) + x.mean(0, 0) + x.after(500, 0) + x.breaker(0, 0, 8) + x.fault();
         }
         long taken = bean.getThreadAllocatedBytes(id) - before;
