@@ -31,6 +31,8 @@ public final class EdgesTest {
         planPlaces();
         afterMoves();
         meanForEver();
+        meanOfManyPlans();
+        arrowsInAnyOrder();
         meanEightBelow();
         rates();
         toldNoneAtFirst();
@@ -378,6 +380,10 @@ public final class EdgesTest {
         due("not forced", x.steps(ONE, 1, 1), NONE);
         x.arrow(0, 0, 0);
         due("the other holds back for ever", x.steps(OTHER, 4, 0), NONE);
+        OneMark left = board(new int[][] {{OTHER, 0}, {ONE, 0}, {ONE, 0}, {ONE, 0}},
+            new int[][] {{0, 2, 0}, {0, 1, 0}, {1, 2, 0}, {2, 3, 0}});
+        due("within two, also where it is left at once", left.steps(ONE, 4, 0), 2);
+        due("by the short way", left.steps(OTHER, 4, 0), 1);
     }
 
     private static void keptNeverOut() {
@@ -525,6 +531,43 @@ public final class EdgesTest {
         x.set(1, 2, -5);
         meanIs(x, 2, -1, 1);
         meanIs(x, 1, -5, 1);
+    }
+
+    private static void meanOfManyPlans() {
+        say("the most by each move that ONE can be sure of for ever, OTHER wanting it least: of several ARROWS");
+        for (int first = 0; first < 3; first++) {
+            OneMark x = board(new int[][] {{ONE, 0}, {ONE, 0}, {ONE, 0}, {ONE, 0}}, new int[][] {{0, 1, 0}, {0, 2, 0}, {0, 3, 0}});
+            for (int p = 1; p <= 3; p++) x.arrow(p, p, (p + first) % 3 * 2 - 3);
+            meanIs(x, 0, 1, 1);
+            x.give(0, OTHER);
+            meanIs(x, 0, -3, 1);
+            for (int p = 1; p <= 3; p++) x.arrow(p, 0, -5);
+            meanIs(x, 0, -5, 2);
+            x.give(0, ONE);
+            meanIs(x, 0, 1, 1);
+            for (int p = 1; p <= 3; p++) x.give(p, OTHER);
+            meanIs(x, 0, -5, 2);
+        }
+    }
+
+    private static void arrowsInAnyOrder() {
+        say("THE MARK lies in a PLACE; whose that is moves it by an ARROW from there, of whatever number");
+        OneMark x = board(new int[][] {{ONE, 0}, {OTHER, 0}}, new int[][] {{0, 0, 5}, {1, 1, -5}, {0, 1, -4}, {1, 0, 4}});
+        due("after(1, 0)", x.after(1, 0), 5);
+        due("after(1, 1)", x.after(1, 1), -5);
+        due("after(2, 0)", x.after(2, 0), 10);
+        meanIs(x, 0, 5, 1);
+        meanIs(x, 1, -5, 1);
+        due("above 4", Texts.ask(x, "mean 0 above 4"), 1);
+        due("below 5", Texts.ask(x, "mean 0 below 5"), 0);
+        due("below 0", Texts.ask(x, "mean 1 below 0"), 1);
+        x.give(1, ONE);
+        meanIs(x, 1, 5, 1);
+        due("below 5", Texts.ask(x, "mean 1 below 5"), 0);
+        x.give(0, OTHER);
+        x.give(1, OTHER);
+        meanIs(x, 0, -5, 1);
+        due("above 0", Texts.ask(x, "mean 0 above 0"), 0);
     }
 
     private static void meanEightBelow() {

@@ -1,7 +1,7 @@
 import java.lang.management.ManagementFactory;
 import java.util.Random;
 
-/** Any calls with any numbers: none throws, refused ones change nothing, all end, and the room is small. */
+/** Any calls with any numbers: none throws, all end, and the room is small. */
 public final class RoomTest {
     private static final Checks CHECKS = new Checks();
     private static final int[] ODD_NUMBERS = {Integer.MIN_VALUE, Integer.MAX_VALUE, -1, -2, 8, 9, 20, 21, 31, 32, 33, 64,
@@ -10,7 +10,6 @@ public final class RoomTest {
 
     public static void main(String[] args) {
         for (int seed = 0; seed < 3000; seed++) anyCalls(new Random(seed));
-        refusedChangeNothing();
         dearestCalls();
         CHECKS.end("RoomTest");
     }
@@ -63,38 +62,6 @@ public final class RoomTest {
         }
     }
 
-    private static OneMark full() {
-        OneMark x = new OneMark();
-        for (int p = 0; p < 8; p++) x.place(p & 1, p);
-        for (int a = 0; a < 20; a++) x.arrow(a % 8, (a * 3 + a / 8 + 1) % 8, a % 11 - 5);
-        x.tell(3);
-        return x;
-    }
-
-    private static String seen(OneMark x) {
-        StringBuilder out = new StringBuilder();
-        for (int what = 0; what < 6; what++) out.append(x.count(what)).append(' ');
-        for (int p = 0; p < 8; p++) out.append(x.mean(p, 0)).append(x.plan(p)).append(x.after(7, p)).append(' ');
-        return out.append(x.won()).append(' ').append(x.judged(0)).append(x.judged(1)).append(x.holds()).toString();
-    }
-
-    private static void refusedChangeNothing() {
-        OneMark x = full();
-        Texts.ask(x, "even from 7 or mean 2 above 0");
-        String before = seen(x);
-        CHECKS.due("place", x.place(0, 0), OneMark.FULL);
-        CHECKS.due("arrow", x.arrow(0, 1, 6), OneMark.OUTSIDE);
-        CHECKS.due("cut", x.cut(20), OneMark.UNKNOWN);
-        CHECKS.due("give", x.give(0, 2), OneMark.UNKNOWN);
-        CHECKS.due("set", x.set(0, 0, 8), Integer.MIN_VALUE);
-        CHECKS.due("set", x.set(1, 20, 0), Integer.MIN_VALUE);
-        CHECKS.due("tell", x.tell(20), OneMark.UNKNOWN);
-        CHECKS.due("untell", x.untell(7), OneMark.NOT);
-        CHECKS.due("write", x.write(0, 9), OneMark.OUTSIDE);
-        CHECKS.due("ask", x.ask(), OneMark.NOT);
-        CHECKS.isTrue("nothing changes", before.equals(seen(x)));
-    }
-
     /** The dearest calls take no room of their own and end soon. */
     private static void dearestCalls() {
         com.sun.management.ThreadMXBean bean = (com.sun.management.ThreadMXBean) ManagementFactory.getThreadMXBean();
@@ -114,6 +81,6 @@ public final class RoomTest {
         long start = bean.getThreadAllocatedBytes(id);
         new OneMark();
         long made = bean.getThreadAllocatedBytes(id) - start;
-        CHECKS.isTrue("an object takes " + made + " bytes", made < 40000);
+        CHECKS.isTrue("an object takes " + made + " bytes", made < 12000);
     }
 }

@@ -16,9 +16,11 @@ public final class TextEdgesTest {
         rowsAsTokens();
         partsAndUnits();
         words();
+        wordsOneLetterOff();
         sets();
         bounds();
         aboveAndBelow();
+        aboveAfterALongWay();
         placesThatAreNotThere();
         moreThanTwoDigits();
         endsTooSoon();
@@ -203,6 +205,22 @@ public final class TextEdgesTest {
         }
     }
 
+    private static void wordsOneLetterOff() {
+        String text = "not one forces 0 from 0 and other keeps 0 from 0 or one again 0 from 0 and even from 0 or mean 0 above 1";
+        faultIs(1, text, NONE);
+        faultIs(1, text.replace("above", "below"), NONE);
+        for (String whole : new String[] {text, text.replace("above", "below")}) {
+            int begin = 0;
+            for (String word : whole.split(" ")) {
+                for (int i = 0; i < word.length() && word.charAt(0) >= 'a'; i++) {
+                    faultIs(1, whole.substring(0, begin + i) + "z" + whole.substring(begin + i + 1), begin);
+                    faultIs(1, whole.substring(0, begin + i) + "E" + whole.substring(begin + i + 1), begin);
+                }
+                begin += word.length() + 1;
+            }
+        }
+    }
+
     private static void sets() {
         say("S one PLACE or more");
         faultIs(8, "one forces from 0", 11);
@@ -272,6 +290,23 @@ public final class TextEdgesTest {
             due("0 above 0", Texts.ask(eighth, "mean 0 above 0"), 0);
             due("0 below 0", Texts.ask(eighth, "mean 0 below 0"), 0);
         }
+    }
+
+    private static void aboveAfterALongWay() {
+        say("MEAN: that to which what it has, by the number of moves, comes near in the end");
+        OneMark x = Boards.row(8, ONE);
+        for (int a = 0; a < 7; a++) x.set(1, a, -5);
+        x.arrow(7, 7, 5);
+        due("5 is not below 5", Texts.ask(x, "mean 0 below 5"), 0);
+        due("5 is above 4", Texts.ask(x, "mean 0 above 4"), 1);
+        due("5 is not above 5", Texts.ask(x, "mean 0 above 5"), 0);
+        for (int a = 0; a < 7; a++) x.set(1, a, 5);
+        x.set(1, 7, 0);
+        due("0 is not above 0", Texts.ask(x, "mean 0 above 0"), 0);
+        due("0 is not below 0", Texts.ask(x, "mean 0 below 0"), 0);
+        due("0 is below 1", Texts.ask(x, "mean 0 below 1"), 1);
+        x.set(1, 7, -5);
+        due("-5 is below 0", Texts.ask(x, "mean 0 below 0"), 1);
     }
 
     private static void placesThatAreNotThere() {
@@ -506,6 +541,11 @@ public final class TextEdgesTest {
         String most = "even from0or ".repeat(8) + "even from0";
         due("the most", Texts.ask(x, most), 1);
         due("the most", x.count(5), 9);
+        due("one more begins and ends too soon", Texts.faultOf(x, "even from0or ".repeat(9) + "one"), 120);
+        due("what is asked stays", x.holds(), 1);
+        due("the most still", x.count(5), 9);
+        due("each of them is seen", Texts.ask(x, "even from1or ".repeat(8) + "even from0"), 1);
+        due("and each is needed", Texts.ask(x, "even from0and ".repeat(7) + "even from1"), 0);
         due("6", x.count(6), OUTSIDE);
     }
 }

@@ -8,6 +8,8 @@ public final class OneMark {
     // A place without arrows has one move that is no arrow: it stays.
     private static final int MOST_MOVES = MOST_ARROWS + MOST_PLACES;
     private static final int MOST_STEPS = 500, MOST_BYTES = 120, MOST_AT_ONCE = 8;
+    // A unit and what joins it to the next one take 13 bytes at least.
+    private static final int MOST_UNITS = 10;
 
     // Kinds of tokens; those of units are the kinds of units, too.
     private static final int T_END = 0, T_NUMBER = 1, T_OPEN = 2, T_CLOSE = 3, T_STRANGE = 4;
@@ -664,7 +666,7 @@ public final class OneMark {
         /**
          * Finds the most by each move that a player can be sure of for ever.
          * Each player has a best plan of one move a place, so those of one player are tried all;
-         * 20 arrows leave the player with fewer plans 38 at most.
+         * 20 arrows leave the player with fewer plans 36 at most.
          */
         private void findSure(Moves moves, int player, int p) {
             int mine = plansOf(moves, player);
@@ -816,11 +818,11 @@ public final class OneMark {
         private static final int NEGATE = -1, BOTH_HOLD = -2, EITHER_HOLDS = -3, PARENTHESIS = -4;
 
         private int units;
-        private final int[] kind = new int[MOST_BYTES];
-        private final int[] player = new int[MOST_BYTES];
-        private final int[] bits = new int[MOST_BYTES];
-        private final int[] at = new int[MOST_BYTES];
-        private final int[] bound = new int[MOST_BYTES];
+        private final int[] kind = new int[MOST_UNITS];
+        private final int[] player = new int[MOST_UNITS];
+        private final int[] bits = new int[MOST_UNITS];
+        private final int[] at = new int[MOST_UNITS];
+        private final int[] bound = new int[MOST_UNITS];
         private int size;
         private final int[] code = new int[MOST_BYTES];
         private int held;
@@ -835,7 +837,7 @@ public final class OneMark {
         }
 
         private void begin(int itsKind, int itsPlayer) {
-            unit = Math.min(units, MOST_BYTES - 1);
+            unit = Math.min(units, MOST_UNITS - 1);
             kind[unit] = itsKind;
             player[unit] = itsPlayer;
             bits[unit] = 0;
