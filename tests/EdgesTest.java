@@ -455,6 +455,15 @@ public final class EdgesTest {
         due("1 is less", ring.won(), 0);
         ring.set(0, 5, 0);
         due("0 is even", ring.won(), 255);
+        for (int player = 0; player < 2; player++) {
+            OneMark apart = new OneMark();
+            for (int p = 0; p < 8; p++) apart.place(player, 7 - p);
+            due("eight numbers apart", apart.won(), 128 | 32 | 8 | 2);
+            for (int p = 0; p < 7; p++) apart.arrow(p, p + 1, 0);
+            due("0 in the end", apart.won(), 255);
+            for (int p = 0; p < 7; p++) apart.arrow(p, p, 0);
+            due("each may stay or go on", apart.won(), player == ONE ? 255 : 128);
+        }
     }
 
     private static void planLeastArrow() {
