@@ -10,10 +10,8 @@ import java.util.ArrayList;
 import java.util.List;
 import java.util.Set;
 import java.util.TreeSet;
-import java.util.regex.Matcher;
-import java.util.regex.Pattern;
 
-/** The face, and those rules of LANGUAGE.md that can be seen from the text of the program. */
+/** The face, and what LANGUAGE.md asks of the members of the classes; the other rules are RulesTest's. */
 public final class LanguageTest {
     private static final Checks CHECKS = new Checks();
     private static final String[] FACE = {"int place(int,int)", "int arrow(int,int,int)", "int cut(int)",
@@ -27,8 +25,6 @@ public final class LanguageTest {
         checkFace();
         String text = Files.readString(Path.of("src/main/java/OneMark.java"), StandardCharsets.UTF_8);
         checkSigns(text);
-        checkWords(plain(text));
-        checkLengths(plain(text));
         CHECKS.end("LanguageTest");
     }
 
@@ -78,36 +74,5 @@ public final class LanguageTest {
         for (int i = 0; i < text.length(); i++) {
             if (text.charAt(i) > 126) CHECKS.due("a sign of the program", text.charAt(i), ' ');
         }
-    }
-
-    /** The program without comments, texts and signs. */
-    private static String plain(String text) {
-        return text.replaceAll("(?s)/\\*.*?\\*/", "").replaceAll("//[^\n]*", "")
-            .replaceAll("\"[^\"\n]*\"", "\"\"").replaceAll("'[^'\n]+'", "' '");
-    }
-
-    private static void checkWords(String text) {
-        String[] barred = {"throw", "throws", "try", "catch", "finally", "synchronized", "assert", "import", "package",
-            "protected", "Object", "System\\.(?!arraycopy)\\w+", "Math\\.\\w*Exact", "Thread", "Random", "->", "::",
-            "new\\s+\\w+\\s*(<\\w*>)?\\s*\\([^)]*\\)\\s*\\{", "float", "double", "native", "transient", "volatile",
-            "Exception", "Error", "equals", "hashCode", "toString", "while\\s*\\(true\\)", "for\\s*\\(;;"};
-        for (String word : barred) {
-            String edged = Character.isLetter(word.charAt(0)) ? "\\b" + word : word;
-            if (word.matches("[a-zA-Z]+")) edged += "\\b";
-            Matcher found = Pattern.compile(edged).matcher(text);
-            CHECKS.isTrue("the program has no " + word, !found.find());
-        }
-    }
-
-    private static void checkLengths(String text) {
-        Matcher head = Pattern.compile("\n( {4}| {8})(public|private)[^;={}]*\\([^;={}]*\\) \\{\n").matcher(text);
-        int methods = 0;
-        while (head.find()) {
-            int end = text.indexOf("\n" + head.group(1) + "}\n", head.end() - 2);
-            long lines = text.substring(head.start(1), Math.max(end, head.start(1))).lines().count();
-            CHECKS.isTrue("lines of" + head.group().strip() + ": " + lines, lines <= 60);
-            methods++;
-        }
-        CHECKS.isTrue("methods seen: " + methods, methods > 60);
     }
 }
